@@ -24,7 +24,13 @@ public final class FaceTest {
         "public int ProductShelf.total()");
 
     public static void main(String[] args) {
-        Due due = new Due();
+        Cases cases = new Cases();
+        cases.of("The public face");
+        cases.holds("all of it and nothing beside it", FaceTest::face);
+        cases.end();
+    }
+
+    private static void face(Due due) {
         Class<?> shelf = ProductShelf.class;
         due.same("public final class", shelf.getModifiers(), Modifier.PUBLIC | Modifier.FINAL);
         due.same("nested classes", shelf.getDeclaredClasses().length, 0);
@@ -45,7 +51,6 @@ public final class FaceTest {
         due.same("missing of the face: " + missing, missing.size(), 0);
         due.same("beside the face: " + beside, beside.size(), 0);
         due.same("private methods with a public name", namesUsedTwice(shelf), 0);
-        due.end();
     }
 
     private static void sort(Executable member, Set<String> missing, Set<String> beside) {

@@ -5,16 +5,26 @@ public final class LongRunsTest {
     private static final int RUNS = 3000;
     private static final int CALLS = 512;
 
-    private final Due due = new Due();
+    private final Due due;
     // A fixed seed: the same calls at every run of the test.
     private final Random random = new Random(20261115);
 
+    private LongRunsTest(Due due) {
+        this.due = due;
+    }
+
     public static void main(String[] args) {
-        LongRunsTest test = new LongRunsTest();
+        Cases cases = new Cases();
+        cases.of("Promises 1 to 12");
+        cases.holds("each of an object's 512 calls, in " + RUNS + " runs", LongRunsTest::allRuns);
+        cases.end();
+    }
+
+    private static void allRuns(Due due) {
+        LongRunsTest test = new LongRunsTest(due);
         for (int run = 0; run < RUNS; run++) {
             test.oneRun(run);
         }
-        test.due.end();
     }
 
     private void oneRun(int run) {

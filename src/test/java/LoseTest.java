@@ -1,102 +1,97 @@
-/** Promises 4, 5 and 6, and promise 10 for the cells that they lose. */
+/** Promise 4. */
 public final class LoseTest {
+    private static final Refusals.CellCall LOSE = (shelf, row, column) -> shelf.lose(row, column);
+
     public static void main(String[] args) {
-        Due due = new Due();
-        eachCellIsLostAlone(due);
-        everyCellCanBeLost(due);
-        wholeRows(due);
-        wholeColumns(due);
-        onlyCellsNotLostBeforeAreCounted(due);
-        indicesOffTheShelfAreRefused(due);
-        due.end();
+        Cases cases = new Cases();
+        cases.of("Promise 4, lose");
+        cases.holds("\"The cell is lost\", that cell and no other", LoseTest::onlyThatCell);
+        cases.holds("\"Answers 1 if it was not lost before\", at the start", LoseTest::notLostBefore);
+        cases.holds("\"Answers 1 if it was not lost before\", after it was mended", LoseTest::mendedBefore);
+        cases.holds("\"Answers 1 if it was not lost before\", down to the last cell", LoseTest::downToTheLast);
+        cases.holds("\"0 if it was\", by lose", LoseTest::lostBefore);
+        cases.holds("\"0 if it was\", by loseRow and loseColumn", LoseTest::lostWithItsLineBefore);
+        cases.holds("\"-1 if row\" is below 0",
+            due -> Refusals.ofRows(due, "lose", Refusals.tooSmall(), LOSE));
+        cases.holds("\"-1 if row\" is above 5",
+            due -> Refusals.ofRows(due, "lose", Refusals.tooLarge(5), LOSE));
+        cases.holds("\"-1 if .. column\" is below 0",
+            due -> Refusals.ofColumns(due, "lose", Refusals.tooSmall(), LOSE));
+        cases.holds("\"-1 if .. column\" is above 5",
+            due -> Refusals.ofColumns(due, "lose", Refusals.tooLarge(5), LOSE));
+        cases.holds("\"-1 if row or column\" are both wrong",
+            due -> Refusals.ofBoth(due, "lose", 5, LOSE));
+        cases.end();
     }
 
-    private static void eachCellIsLostAlone(Due due) {
+    private static void onlyThatCell(Due due) {
         for (int row = 0; row < Shelves.SIDE; row++) {
             for (int column = 0; column < Shelves.SIDE; column++) {
                 ProductShelf shelf = Shelves.filled();
-                String at = "(" + row + ", " + column + ")";
-                String picture = pictureOf(row, row, column, column);
-                due.same("lose" + at, shelf.lose(row, column), 1);
-                Shelves.looksLike(due, "lose" + at, shelf, picture);
-                due.same("lose again" + at, shelf.lose(row, column), 0);
-                Shelves.looksLike(due, "lose again" + at, shelf, picture);
+                String call = "lose" + Shelves.at(row, column);
+                shelf.lose(row, column);
+                Shelves.looksLike(due, call, shelf, Pictures.cell(row, column));
+                shelf.lose(row, column);
+                Shelves.looksLike(due, call + " again", shelf, Pictures.cell(row, column));
             }
         }
     }
 
-    private static void everyCellCanBeLost(Due due) {
+    private static void notLostBefore(Due due) {
+        for (int row = 0; row < Shelves.SIDE; row++) {
+            for (int column = 0; column < Shelves.SIDE; column++) {
+                due.same("lose" + Shelves.at(row, column), Shelves.filled().lose(row, column), 1);
+            }
+        }
+    }
+
+    private static void mendedBefore(Due due) {
+        for (int row = 0; row < Shelves.SIDE; row++) {
+            for (int column = 0; column < Shelves.SIDE; column++) {
+                ProductShelf shelf = Shelves.filled();
+                String call = "lose" + Shelves.at(row, column);
+                shelf.lose(row, column);
+                shelf.mendRow(row);
+                due.same(call + " after mendRow", shelf.lose(row, column), 1);
+                shelf.mendColumn(column);
+                due.same(call + " after mendColumn", shelf.lose(row, column), 1);
+                shelf.mend();
+                due.same(call + " after mend", shelf.lose(row, column), 1);
+            }
+        }
+    }
+
+    private static void downToTheLast(Due due) {
         ProductShelf shelf = Shelves.filled();
         for (int row = 0; row < Shelves.SIDE; row++) {
             for (int column = 0; column < Shelves.SIDE; column++) {
-                due.same("lose one more", shelf.lose(row, column), 1);
-                due.same("losses()", shelf.losses(), row * Shelves.SIDE + column + 1);
+                due.same("lose one more" + Shelves.at(row, column), shelf.lose(row, column), 1);
             }
         }
-        Shelves.looksLike(due, "all lost", shelf, pictureOf(0, 5, 0, 5));
+        Shelves.looksLike(due, "all lost one by one", shelf, Pictures.ALL);
     }
 
-    private static void wholeRows(Due due) {
-        for (int row = 0; row < Shelves.SIDE; row++) {
-            ProductShelf shelf = Shelves.filled();
-            String call = "loseRow(" + row + ")";
-            due.same(call, shelf.loseRow(row), 6);
-            Shelves.looksLike(due, call, shelf, pictureOf(row, row, 0, 5));
-            due.same(call + " again", shelf.loseRow(row), 0);
-            Shelves.looksLike(due, call + " again", shelf, pictureOf(row, row, 0, 5));
-        }
-    }
-
-    private static void wholeColumns(Due due) {
-        for (int column = 0; column < Shelves.SIDE; column++) {
-            ProductShelf shelf = Shelves.filled();
-            String call = "loseColumn(" + column + ")";
-            due.same(call, shelf.loseColumn(column), 6);
-            Shelves.looksLike(due, call, shelf, pictureOf(0, 5, column, column));
-            due.same(call + " again", shelf.loseColumn(column), 0);
-            Shelves.looksLike(due, call + " again", shelf, pictureOf(0, 5, column, column));
-        }
-    }
-
-    private static void onlyCellsNotLostBeforeAreCounted(Due due) {
-        ProductShelf shelf = Shelves.filledWithLost("...... .#..#. ...... ..#... ...... ......");
-        due.same("loseRow(1) with two lost", shelf.loseRow(1), 4);
-        due.same("loseColumn(2) with two lost", shelf.loseColumn(2), 4);
-        due.same("loseRow(0) with one lost", shelf.loseRow(0), 5);
-        due.same("loseColumn(5) with two lost", shelf.loseColumn(5), 4);
-        due.same("lose(5, 5)", shelf.lose(5, 5), 0);
-        Shelves.looksLike(due, "rows and columns", shelf, "###### ###### ..#..# ..#..# ..#..# ..#..#");
-    }
-
-    private static void indicesOffTheShelfAreRefused(Due due) {
-        String picture = "...... .#.... ...... ...... ....#. ......";
-        for (int off : Shelves.offTheShelf()) {
-            ProductShelf shelf = Shelves.filledWithLost(picture);
-            due.same("loseRow(" + off + ")", shelf.loseRow(off), -1);
-            due.same("loseColumn(" + off + ")", shelf.loseColumn(off), -1);
-            refused(due, shelf, off, off);
-            for (int on = 0; on < Shelves.SIDE; on++) {
-                refused(due, shelf, off, on);
-                refused(due, shelf, on, off);
-            }
-            Shelves.looksLike(due, "after index " + off, shelf, picture);
-        }
-    }
-
-    private static void refused(Due due, ProductShelf shelf, int row, int column) {
-        due.same("lose(" + row + ", " + column + ")", shelf.lose(row, column), -1);
-        due.same("lost(" + row + ", " + column + ")", shelf.lost(row, column), -1);
-    }
-
-    private static String pictureOf(int firstRow, int lastRow, int firstColumn, int lastColumn) {
-        StringBuilder picture = new StringBuilder();
+    private static void lostBefore(Due due) {
         for (int row = 0; row < Shelves.SIDE; row++) {
             for (int column = 0; column < Shelves.SIDE; column++) {
-                boolean lost = row >= firstRow && row <= lastRow && column >= firstColumn && column <= lastColumn;
-                picture.append(lost ? '#' : '.');
+                ProductShelf shelf = Shelves.filled();
+                shelf.lose(row, column);
+                due.same("lose again" + Shelves.at(row, column), shelf.lose(row, column), 0);
+                due.same("lose a third time" + Shelves.at(row, column), shelf.lose(row, column), 0);
             }
-            picture.append(' ');
         }
-        return picture.toString();
+    }
+
+    private static void lostWithItsLineBefore(Due due) {
+        for (int row = 0; row < Shelves.SIDE; row++) {
+            for (int column = 0; column < Shelves.SIDE; column++) {
+                ProductShelf shelf = Shelves.filled();
+                shelf.loseRow(row);
+                due.same("lose in a lost row" + Shelves.at(row, column), shelf.lose(row, column), 0);
+                shelf = Shelves.filled();
+                shelf.loseColumn(column);
+                due.same("lose in a lost column" + Shelves.at(row, column), shelf.lose(row, column), 0);
+            }
+        }
     }
 }

@@ -1,90 +1,80 @@
-/** Promises 7 and 8: every pattern of lost cells in every row and every column. */
+/** Promises 7 and 8, and CAN BE MENDED: every pattern in every row and every column. */
 public final class MendLineTest {
-    private static final int PATTERNS = 64;
-
     public static void main(String[] args) {
-        Due due = new Due();
+        Cases cases = new Cases();
+        cases.of("Promise 7, mendRow");
+        linesAreMended(cases, Line.ROW);
+        cases.of("Promise 8, mendColumn, \"Answers as mendRow\"");
+        linesAreMended(cases, Line.COLUMN);
+        cases.end();
+    }
+
+    private static void linesAreMended(Cases cases, Line kind) {
+        String name = "mend" + kind.word;
+        cases.holds("\"at least one\" is lost: none is, 0", due -> eachPattern(due, kind, 0, 0));
+        cases.holds("\"at least one\" is lost: one is, 1", due -> eachPattern(due, kind, 1, 1));
+        cases.holds("\"at most two\" are lost: two are, 2", due -> eachPattern(due, kind, 2, 2));
+        cases.holds("\"(0 if it can't be mended)\": three are lost", due -> eachPattern(due, kind, 3, 0));
+        cases.holds("\"(0 if it can't be mended)\": four are lost", due -> eachPattern(due, kind, 4, 0));
+        cases.holds("\"(0 if it can't be mended)\": five are lost", due -> eachPattern(due, kind, 5, 0));
+        cases.holds("\"(0 if it can't be mended)\": all six are lost", due -> eachPattern(due, kind, 6, 0));
+        cases.holds("\"of its six cells\", lost cells of other lines not counted", due -> amongLost(due, kind));
+        cases.holds("\"were lost before and are not after\", so 0 when mended again", due -> mendedAgain(due, kind));
+        cases.holds("\"mending it makes them not lost\", with their values", due -> valuesComeBack(due, kind));
+        cases.holds("\"-1 if\" the index is below 0",
+            due -> Refusals.ofLines(due, name, Refusals.tooSmall(), kind::mend));
+        cases.holds("\"-1 if\" the index is above 5",
+            due -> Refusals.ofLines(due, name, Refusals.tooLarge(5), kind::mend));
+    }
+
+    /** Every pattern with so many lost cells, in every line of a shelf with no other lost. */
+    private static void eachPattern(Due due, Line kind, int lost, int mended) {
         for (int line = 0; line < Shelves.SIDE; line++) {
-            for (int pattern = 0; pattern < PATTERNS; pattern++) {
-                for (char others : new char[] {'.', '#'}) {
-                    rowIsMended(due, line, pattern, others);
-                    columnIsMended(due, line, pattern, others);
+            for (int pattern = 0; pattern < Line.PATTERNS; pattern++) {
+                if (Integer.bitCount(pattern) == lost) {
+                    answers(due, kind, line, pattern, mended, false);
                 }
             }
         }
-        wrongIndicesAreRefused(due);
-        mendedValueIsTheOneBeforeTheLoss(due);
-        due.end();
     }
 
-    private static void rowIsMended(Due due, int row, int pattern, char others) {
-        ProductShelf shelf = Shelves.filledWithLost(pictureOfRow(row, pattern, others));
-        String call = "mendRow(" + row + ") of pattern " + pattern + " among " + others;
-        due.same(call, shelf.mendRow(row), mended(pattern));
-        Shelves.looksLike(due, call, shelf, pictureOfRow(row, left(pattern), others));
-        due.same(call + " again", shelf.mendRow(row), 0);
-    }
-
-    private static void columnIsMended(Due due, int column, int pattern, char others) {
-        ProductShelf shelf = Shelves.filledWithLost(turned(pictureOfRow(column, pattern, others)));
-        String call = "mendColumn(" + column + ") of pattern " + pattern + " among " + others;
-        due.same(call, shelf.mendColumn(column), mended(pattern));
-        Shelves.looksLike(due, call, shelf, turned(pictureOfRow(column, left(pattern), others)));
-        due.same(call + " again", shelf.mendColumn(column), 0);
-    }
-
-    private static void wrongIndicesAreRefused(Due due) {
-        String picture = "##.... ...... ...... ...... ...... #....#";
-        for (int off : Shelves.offTheShelf()) {
-            ProductShelf shelf = Shelves.filledWithLost(picture);
-            due.same("mendRow(" + off + ")", shelf.mendRow(off), -1);
-            due.same("mendColumn(" + off + ")", shelf.mendColumn(off), -1);
-            Shelves.looksLike(due, "after mending line " + off, shelf, picture);
+    private static void amongLost(Due due, Line kind) {
+        for (int line = 0; line < Shelves.SIDE; line++) {
+            for (int pattern = 0; pattern < Line.PATTERNS; pattern++) {
+                int lost = Integer.bitCount(pattern);
+                answers(due, kind, line, pattern, lost <= 2 ? lost : 0, true);
+            }
         }
     }
 
-    private static void mendedValueIsTheOneBeforeTheLoss(Due due) {
-        ProductShelf shelf = Shelves.filledWithLost("#.#... ...... ...... ...... ...... ......");
-        shelf.write(0, 1, 201);
-        shelf.write(1, 0, 202);
+    private static void answers(Due due, Line kind, int line, int pattern, int mended, boolean othersLost) {
+        ProductShelf shelf = Shelves.filledWithLost(kind.pattern(line, pattern, othersLost));
+        String call = "mend of line " + line + ", pattern " + pattern + ", others lost: " + othersLost;
+        due.same(call, kind.mend(shelf, line), mended);
+        int left = mended == 0 ? pattern : 0;
+        Shelves.looksLike(due, call, shelf, kind.pattern(line, left, othersLost));
+    }
+
+    private static void mendedAgain(Due due, Line kind) {
+        for (int line = 0; line < Shelves.SIDE; line++) {
+            for (int pattern = 0; pattern < Line.PATTERNS; pattern++) {
+                ProductShelf shelf = Shelves.filledWithLost(kind.pattern(line, pattern, false));
+                kind.mend(shelf, line);
+                due.same("mend again of line " + line + ", pattern " + pattern, kind.mend(shelf, line), 0);
+            }
+        }
+    }
+
+    private static void valuesComeBack(Due due, Line kind) {
+        ProductShelf shelf = Shelves.filledWithLost(kind.picture("#.#... ...... ...... ...... ...... ......"));
         shelf.write(0, 0, 203);
-        due.same("mendRow(0)", shelf.mendRow(0), 2);
+        shelf.write(1, 1, 201);
+        kind.mend(shelf, 0);
         due.same("read(0, 0)", shelf.read(0, 0), Shelves.valueAt(0, 0));
-        due.same("read(0, 1)", shelf.read(0, 1), 201);
         due.same("read(0, 2)", shelf.read(0, 2), Shelves.valueAt(0, 2));
+        due.same("read(2, 0)", shelf.read(2, 0), Shelves.valueAt(2, 0));
+        due.same("read(1, 1)", shelf.read(1, 1), 201);
         due.same("write(0, 0, 204)", shelf.write(0, 0, 204), Shelves.valueAt(0, 0));
-    }
-
-    private static int mended(int pattern) {
-        int lost = Integer.bitCount(pattern);
-        return lost <= 2 ? lost : 0;
-    }
-
-    private static int left(int pattern) {
-        return mended(pattern) == 0 ? pattern : 0;
-    }
-
-    private static String pictureOfRow(int wanted, int pattern, char others) {
-        StringBuilder picture = new StringBuilder();
-        for (int row = 0; row < Shelves.SIDE; row++) {
-            for (int column = 0; column < Shelves.SIDE; column++) {
-                char own = (pattern >> column & 1) == 1 ? '#' : '.';
-                picture.append(row == wanted ? own : others);
-            }
-            picture.append(' ');
-        }
-        return picture.toString();
-    }
-
-    private static String turned(String picture) {
-        String[] rows = picture.split(" ");
-        StringBuilder turned = new StringBuilder();
-        for (int row = 0; row < Shelves.SIDE; row++) {
-            for (int column = 0; column < Shelves.SIDE; column++) {
-                turned.append(rows[column].charAt(row));
-            }
-            turned.append(' ');
-        }
-        return turned.toString();
+        due.same("read(0, 0) after it", shelf.read(0, 0), 204);
     }
 }

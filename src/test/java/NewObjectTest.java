@@ -1,30 +1,61 @@
 /** Promise 1. */
 public final class NewObjectTest {
     public static void main(String[] args) {
-        Due due = new Due();
-        ProductShelf shelf = new ProductShelf();
-        for (int row = 0; row < Shelves.SIDE; row++) {
-            for (int column = 0; column < Shelves.SIDE; column++) {
-                boolean data = row < Shelves.DATA_SIDE && column < Shelves.DATA_SIDE;
-                String at = "(" + row + ", " + column + ")";
-                due.same("lost" + at, shelf.lost(row, column), 0);
-                due.same("read" + at, shelf.read(row, column), data ? 0 : -1);
+        Cases cases = new Cases();
+        cases.of("Promise 1, A new object");
+        cases.holds("\"All values are 0\", as read", NewObjectTest::eachIsReadAsZero);
+        cases.holds("\"All values are 0\", as the value before the first write", NewObjectTest::eachIsZeroBeforeTheFirstWrite);
+        cases.holds("\"All values are 0\", in sum", due -> due.same("total()", new ProductShelf().total(), 0));
+        cases.holds("\"no cell is lost\", cell by cell", NewObjectTest::noneIsLost);
+        cases.holds("\"no cell is lost\", in number", due -> due.same("losses()", new ProductShelf().losses(), 0));
+        cases.holds("\"no cell is lost\", so nothing can be mended", NewObjectTest::nothingCanBeMended);
+        cases.holds("a new object stays new whatever other objects do", NewObjectTest::objectsShareNothing);
+        cases.end();
+    }
+
+    private static void eachIsReadAsZero(Due due) {
+        for (int row = 0; row < Shelves.DATA_SIDE; row++) {
+            for (int column = 0; column < Shelves.DATA_SIDE; column++) {
+                due.same("read" + Shelves.at(row, column), new ProductShelf().read(row, column), 0);
             }
         }
-        due.same("losses()", shelf.losses(), 0);
-        due.same("total()", shelf.total(), 0);
-        due.same("mend()", shelf.mend(), 0);
-        objectsShareNothing(due);
-        due.end();
+    }
+
+    private static void eachIsZeroBeforeTheFirstWrite(Due due) {
+        for (int row = 0; row < Shelves.DATA_SIDE; row++) {
+            for (int column = 0; column < Shelves.DATA_SIDE; column++) {
+                due.same("write" + Shelves.at(row, column), new ProductShelf().write(row, column, 200), 0);
+            }
+        }
+    }
+
+    private static void noneIsLost(Due due) {
+        for (int row = 0; row < Shelves.SIDE; row++) {
+            for (int column = 0; column < Shelves.SIDE; column++) {
+                due.same("lost" + Shelves.at(row, column), new ProductShelf().lost(row, column), 0);
+                due.same("lose" + Shelves.at(row, column), new ProductShelf().lose(row, column), 1);
+            }
+        }
+    }
+
+    private static void nothingCanBeMended(Due due) {
+        due.same("mend()", new ProductShelf().mend(), 0);
+        for (int line = 0; line < Shelves.SIDE; line++) {
+            due.same("mendRow(" + line + ")", new ProductShelf().mendRow(line), 0);
+            due.same("mendColumn(" + line + ")", new ProductShelf().mendColumn(line), 0);
+        }
     }
 
     private static void objectsShareNothing(Due due) {
+        ProductShelf early = new ProductShelf();
         ProductShelf used = Shelves.filled();
         used.loseRow(2);
-        ProductShelf fresh = new ProductShelf();
-        due.same("second object: losses()", fresh.losses(), 0);
-        due.same("second object: total()", fresh.total(), 0);
-        fresh.loseColumn(0);
-        Shelves.looksLike(due, "first object", used, "...... ...... ###### ...... ...... ......");
+        ProductShelf late = new ProductShelf();
+        due.same("object made before: losses()", early.losses(), 0);
+        due.same("object made before: total()", early.total(), 0);
+        due.same("object made after: losses()", late.losses(), 0);
+        due.same("object made after: total()", late.total(), 0);
+        late.loseColumn(0);
+        Shelves.looksLike(due, "the used object", used, "...... ...... ###### ...... ...... ......");
     }
 }
