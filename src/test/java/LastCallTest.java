@@ -55,16 +55,10 @@ public final class LastCallTest {
     }
 
     private static void stillNew(Due due) {
-        for (int row = 0; row < Shelves.DATA_SIDE; row++) {
-            for (int column = 0; column < Shelves.DATA_SIDE; column++) {
-                due.same("read" + Shelves.at(row, column), onlyLookedAt().read(row, column), 0);
-            }
-        }
-        for (int row = 0; row < Shelves.SIDE; row++) {
-            for (int column = 0; column < Shelves.SIDE; column++) {
-                due.same("lost" + Shelves.at(row, column), onlyLookedAt().lost(row, column), 0);
-            }
-        }
+        Cells.eachData((row, column) ->
+            due.same("read" + Shelves.at(row, column), onlyLookedAt().read(row, column), 0));
+        Cells.each((row, column) ->
+            due.same("lost" + Shelves.at(row, column), onlyLookedAt().lost(row, column), 0));
         due.same("losses()", onlyLookedAt().losses(), 0);
         due.same("total()", onlyLookedAt().total(), 0);
         due.same("mend()", onlyLookedAt().mend(), 0);

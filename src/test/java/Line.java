@@ -1,6 +1,6 @@
 /** A row or a column: what the document says of the one it says of the other. */
 enum Line {
-    ROW("Row") {
+    ROW("row") {
         @Override
         int lose(ProductShelf shelf, int line) {
             return shelf.loseRow(line);
@@ -16,7 +16,7 @@ enum Line {
             return asRows;
         }
     },
-    COLUMN("Column") {
+    COLUMN("column") {
         @Override
         int lose(ProductShelf shelf, int line) {
             return shelf.loseColumn(line);

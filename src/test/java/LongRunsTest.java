@@ -48,7 +48,8 @@ public final class LongRunsTest {
         int value = random.nextInt();
         String at = "(" + row + ", " + column + ")";
         switch (random.nextInt(14)) {
-            case 0, 1 -> due.same(where + "write" + at + value, shelf.write(row, column, value), model.write(row, column, value));
+            case 0, 1 -> due.same(where + "write" + at + value,
+                shelf.write(row, column, value), model.write(row, column, value));
             case 2, 3 -> due.same(where + "read" + at, shelf.read(row, column), model.read(row, column));
             case 4, 5, 6 -> due.same(where + "lose" + at, shelf.lose(row, column), model.lose(row, column));
             case 7 -> due.same(where + "loseRow" + at, shelf.loseRow(row), model.loseRow(row));

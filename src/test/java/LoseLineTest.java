@@ -10,16 +10,12 @@ public final class LoseLineTest {
     }
 
     private static void linesAreLost(Cases cases, Line kind) {
-        String name = "lose" + kind.word;
         cases.holds("\"All cells .. are lost\", those and no others", due -> onlyThatLine(due, kind));
         cases.holds("\"how many of them were not lost before\", none being lost: 6", due -> noneBefore(due, kind));
         cases.holds("\"how many of them were not lost before\", some being lost: 1 to 5", due -> someBefore(due, kind));
         cases.holds("\"how many of them were not lost before\", all being lost: 0", due -> allBefore(due, kind));
         cases.holds("\"how many of them\", cells of other lines not counted", due -> othersBefore(due, kind));
-        cases.holds("\"-1 if\" the index is below 0",
-            due -> Refusals.ofLines(due, name, Refusals.tooSmall(), kind::lose));
-        cases.holds("\"-1 if\" the index is above 5",
-            due -> Refusals.ofLines(due, name, Refusals.tooLarge(5), kind::lose));
+        Refusals.ofLines(cases, "\"-1 if " + kind.word + " is not from 0 to 5\"", kind::lose);
     }
 
     private static void onlyThatLine(Due due, Line kind) {

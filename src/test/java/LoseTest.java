@@ -1,7 +1,5 @@
 /** Promise 4. */
 public final class LoseTest {
-    private static final Refusals.CellCall LOSE = (shelf, row, column) -> shelf.lose(row, column);
-
     public static void main(String[] args) {
         Cases cases = new Cases();
         cases.of("Promise 4, lose");
@@ -11,87 +9,65 @@ public final class LoseTest {
         cases.holds("\"Answers 1 if it was not lost before\", down to the last cell", LoseTest::downToTheLast);
         cases.holds("\"0 if it was\", by lose", LoseTest::lostBefore);
         cases.holds("\"0 if it was\", by loseRow and loseColumn", LoseTest::lostWithItsLineBefore);
-        cases.holds("\"-1 if row\" is below 0",
-            due -> Refusals.ofRows(due, "lose", Refusals.tooSmall(), LOSE));
-        cases.holds("\"-1 if row\" is above 5",
-            due -> Refusals.ofRows(due, "lose", Refusals.tooLarge(5), LOSE));
-        cases.holds("\"-1 if .. column\" is below 0",
-            due -> Refusals.ofColumns(due, "lose", Refusals.tooSmall(), LOSE));
-        cases.holds("\"-1 if .. column\" is above 5",
-            due -> Refusals.ofColumns(due, "lose", Refusals.tooLarge(5), LOSE));
-        cases.holds("\"-1 if row or column\" are both wrong",
-            due -> Refusals.ofBoth(due, "lose", 5, LOSE));
+        Refusals.ofCells(cases, "\"-1 if row or column is not from 0 to 5\"", 5,
+            ProductShelf::lose);
         cases.end();
     }
 
     private static void onlyThatCell(Due due) {
-        for (int row = 0; row < Shelves.SIDE; row++) {
-            for (int column = 0; column < Shelves.SIDE; column++) {
-                ProductShelf shelf = Shelves.filled();
-                String call = "lose" + Shelves.at(row, column);
-                shelf.lose(row, column);
-                Shelves.looksLike(due, call, shelf, Pictures.cell(row, column));
-                shelf.lose(row, column);
-                Shelves.looksLike(due, call + " again", shelf, Pictures.cell(row, column));
-            }
-        }
+        Cells.each((row, column) -> {
+            ProductShelf shelf = Shelves.filled();
+            String call = "lose" + Shelves.at(row, column);
+            shelf.lose(row, column);
+            Shelves.looksLike(due, call, shelf, Pictures.cell(row, column));
+            shelf.lose(row, column);
+            Shelves.looksLike(due, call + " again", shelf, Pictures.cell(row, column));
+        });
     }
 
     private static void notLostBefore(Due due) {
-        for (int row = 0; row < Shelves.SIDE; row++) {
-            for (int column = 0; column < Shelves.SIDE; column++) {
-                due.same("lose" + Shelves.at(row, column), Shelves.filled().lose(row, column), 1);
-            }
-        }
+        Cells.each((row, column) ->
+            due.same("lose" + Shelves.at(row, column), Shelves.filled().lose(row, column), 1));
     }
 
     private static void mendedBefore(Due due) {
-        for (int row = 0; row < Shelves.SIDE; row++) {
-            for (int column = 0; column < Shelves.SIDE; column++) {
-                ProductShelf shelf = Shelves.filled();
-                String call = "lose" + Shelves.at(row, column);
-                shelf.lose(row, column);
-                shelf.mendRow(row);
-                due.same(call + " after mendRow", shelf.lose(row, column), 1);
-                shelf.mendColumn(column);
-                due.same(call + " after mendColumn", shelf.lose(row, column), 1);
-                shelf.mend();
-                due.same(call + " after mend", shelf.lose(row, column), 1);
-            }
-        }
+        Cells.each((row, column) -> {
+            ProductShelf shelf = Shelves.filled();
+            String call = "lose" + Shelves.at(row, column);
+            shelf.lose(row, column);
+            shelf.mendRow(row);
+            due.same(call + " after mendRow", shelf.lose(row, column), 1);
+            shelf.mendColumn(column);
+            due.same(call + " after mendColumn", shelf.lose(row, column), 1);
+            shelf.mend();
+            due.same(call + " after mend", shelf.lose(row, column), 1);
+        });
     }
 
     private static void downToTheLast(Due due) {
         ProductShelf shelf = Shelves.filled();
-        for (int row = 0; row < Shelves.SIDE; row++) {
-            for (int column = 0; column < Shelves.SIDE; column++) {
-                due.same("lose one more" + Shelves.at(row, column), shelf.lose(row, column), 1);
-            }
-        }
+        Cells.each((row, column) ->
+            due.same("lose one more" + Shelves.at(row, column), shelf.lose(row, column), 1));
         Shelves.looksLike(due, "all lost one by one", shelf, Pictures.ALL);
     }
 
     private static void lostBefore(Due due) {
-        for (int row = 0; row < Shelves.SIDE; row++) {
-            for (int column = 0; column < Shelves.SIDE; column++) {
-                ProductShelf shelf = Shelves.filled();
-                shelf.lose(row, column);
-                due.same("lose again" + Shelves.at(row, column), shelf.lose(row, column), 0);
-                due.same("lose a third time" + Shelves.at(row, column), shelf.lose(row, column), 0);
-            }
-        }
+        Cells.each((row, column) -> {
+            ProductShelf shelf = Shelves.filled();
+            shelf.lose(row, column);
+            due.same("lose again" + Shelves.at(row, column), shelf.lose(row, column), 0);
+            due.same("lose a third time" + Shelves.at(row, column), shelf.lose(row, column), 0);
+        });
     }
 
     private static void lostWithItsLineBefore(Due due) {
-        for (int row = 0; row < Shelves.SIDE; row++) {
-            for (int column = 0; column < Shelves.SIDE; column++) {
-                ProductShelf shelf = Shelves.filled();
-                shelf.loseRow(row);
-                due.same("lose in a lost row" + Shelves.at(row, column), shelf.lose(row, column), 0);
-                shelf = Shelves.filled();
-                shelf.loseColumn(column);
-                due.same("lose in a lost column" + Shelves.at(row, column), shelf.lose(row, column), 0);
-            }
-        }
+        Cells.each((row, column) -> {
+            ProductShelf shelf = Shelves.filled();
+            shelf.loseRow(row);
+            due.same("lose in a lost row" + Shelves.at(row, column), shelf.lose(row, column), 0);
+            shelf = Shelves.filled();
+            shelf.loseColumn(column);
+            due.same("lose in a lost column" + Shelves.at(row, column), shelf.lose(row, column), 0);
+        });
     }
 }

@@ -15,13 +15,11 @@ public final class LossesTest {
     }
 
     private static void oneCell(Due due) {
-        for (int row = 0; row < Shelves.SIDE; row++) {
-            for (int column = 0; column < Shelves.SIDE; column++) {
-                ProductShelf shelf = new ProductShelf();
-                shelf.lose(row, column);
-                due.same("losses() after lose" + Shelves.at(row, column), shelf.losses(), 1);
-            }
-        }
+        Cells.each((row, column) -> {
+            ProductShelf shelf = new ProductShelf();
+            shelf.lose(row, column);
+            due.same("losses() after lose" + Shelves.at(row, column), shelf.losses(), 1);
+        });
     }
 
     private static void upToAll(Due due) {

@@ -1,7 +1,5 @@
 /** Promise 10. */
 public final class LostTest {
-    private static final Refusals.CellCall LOST = (shelf, row, column) -> shelf.lost(row, column);
-
     public static void main(String[] args) {
         Cases cases = new Cases();
         cases.of("Promise 10, lost");
@@ -11,34 +9,20 @@ public final class LostTest {
         cases.holds("\"0 if not\", each alone among lost ones", LostTest::leftAlone);
         cases.holds("\"0 if not\", after mending", LostTest::mended);
         cases.holds("the same when asked again", LostTest::askingChangesNothing);
-        cases.holds("\"-1 if row\" is below 0",
-            due -> Refusals.ofRows(due, "lost", Refusals.tooSmall(), LOST));
-        cases.holds("\"-1 if row\" is above 5",
-            due -> Refusals.ofRows(due, "lost", Refusals.tooLarge(5), LOST));
-        cases.holds("\"-1 if .. column\" is below 0",
-            due -> Refusals.ofColumns(due, "lost", Refusals.tooSmall(), LOST));
-        cases.holds("\"-1 if .. column\" is above 5",
-            due -> Refusals.ofColumns(due, "lost", Refusals.tooLarge(5), LOST));
-        cases.holds("\"-1 if row or column\" are both wrong",
-            due -> Refusals.ofBoth(due, "lost", 5, LOST));
+        Refusals.ofCells(cases, "\"-1 if row or column is not from 0 to 5\"", 5,
+            ProductShelf::lost);
         cases.end();
     }
 
     private static void lostAlone(Due due) {
-        for (int row = 0; row < Shelves.SIDE; row++) {
-            for (int column = 0; column < Shelves.SIDE; column++) {
-                each(due, Pictures.cell(row, column));
-            }
-        }
+        Cells.each((row, column) ->
+            each(due, Pictures.cell(row, column)));
     }
 
     private static void leftAlone(Due due) {
-        for (int row = 0; row < Shelves.SIDE; row++) {
-            for (int column = 0; column < Shelves.SIDE; column++) {
-                String own = Pictures.cell(row, column);
-                each(due, Pictures.where((r, c) -> !Pictures.isLost(own, r, c)));
-            }
-        }
+        Cells.each((row, column) -> {
+            each(due, Pictures.allBut(row, column));
+        });
     }
 
     private static void each(Due due, String picture) {
@@ -46,12 +30,10 @@ public final class LostTest {
     }
 
     private static void each(Due due, ProductShelf shelf, String picture) {
-        for (int row = 0; row < Shelves.SIDE; row++) {
-            for (int column = 0; column < Shelves.SIDE; column++) {
-                int want = Pictures.isLost(picture, row, column) ? 1 : 0;
-                due.same("lost" + Shelves.at(row, column) + " of " + picture, shelf.lost(row, column), want);
-            }
-        }
+        Cells.each((row, column) -> {
+            int want = Pictures.isLost(picture, row, column) ? 1 : 0;
+            due.same("lost" + Shelves.at(row, column) + " of " + picture, shelf.lost(row, column), want);
+        });
     }
 
     private static void mended(Due due) {

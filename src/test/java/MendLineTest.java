@@ -10,7 +10,6 @@ public final class MendLineTest {
     }
 
     private static void linesAreMended(Cases cases, Line kind) {
-        String name = "mend" + kind.word;
         cases.holds("\"at least one\" is lost: none is, 0", due -> eachPattern(due, kind, 0, 0));
         cases.holds("\"at least one\" is lost: one is, 1", due -> eachPattern(due, kind, 1, 1));
         cases.holds("\"at most two\" are lost: two are, 2", due -> eachPattern(due, kind, 2, 2));
@@ -21,10 +20,7 @@ public final class MendLineTest {
         cases.holds("\"of its six cells\", lost cells of other lines not counted", due -> amongLost(due, kind));
         cases.holds("\"were lost before and are not after\", so 0 when mended again", due -> mendedAgain(due, kind));
         cases.holds("\"mending it makes them not lost\", with their values", due -> valuesComeBack(due, kind));
-        cases.holds("\"-1 if\" the index is below 0",
-            due -> Refusals.ofLines(due, name, Refusals.tooSmall(), kind::mend));
-        cases.holds("\"-1 if\" the index is above 5",
-            due -> Refusals.ofLines(due, name, Refusals.tooLarge(5), kind::mend));
+        Refusals.ofLines(cases, "\"-1 if " + kind.word + " is not from 0 to 5\"", kind::mend);
     }
 
     /** Every pattern with so many lost cells, in every line of a shelf with no other lost. */

@@ -18,9 +18,11 @@ public final class MendTest {
         cases.holds("three by three but one cell are lost: all come back", MendTest::threeByThreeButOne);
         cases.holds("three lost in each row and in each column: 0", MendTest::threeInEachLine);
         cases.holds("\"Mends rows and columns\", neither of them alone", MendTest::neitherAlone);
-        cases.holds("\"until no row and no column can be mended any more\", one line opening the next", MendTest::oneAfterAnother);
+        cases.holds("\"until no row and no column can be mended any more\", one line opening the next",
+            MendTest::oneAfterAnother);
         cases.holds("\"until no row and no column can be mended any more\", a part staying lost", MendTest::onlyAPart);
-        cases.holds("\"until no row and no column can be mended any more\", so none is mended after it", MendTest::noneIsMendedAfter);
+        cases.holds("\"until no row and no column can be mended any more\", so none is mended after it",
+            MendTest::noneIsMendedAfter);
         cases.holds("\"Whatever the order, the same cells are lost in the end\"", MendTest::anyOrder);
         cases.holds("\"how many cells were lost before and are not after\"", MendTest::answersTheDifference);
         cases.holds("the values of the mended cells come back", MendTest::valuesComeBack);
@@ -28,11 +30,8 @@ public final class MendTest {
     }
 
     private static void oneCell(Due due) {
-        for (int row = 0; row < Shelves.SIDE; row++) {
-            for (int column = 0; column < Shelves.SIDE; column++) {
-                isLeft(due, Pictures.cell(row, column), Pictures.NONE);
-            }
-        }
+        Cells.each((row, column) ->
+            isLeft(due, Pictures.cell(row, column), Pictures.NONE));
     }
 
     private static void oneOrTwoLines(Due due) {
@@ -58,12 +57,10 @@ public final class MendTest {
     }
 
     private static void allButOne(Due due) {
-        for (int row = 0; row < Shelves.SIDE; row++) {
-            for (int column = 0; column < Shelves.SIDE; column++) {
-                String left = without(Pictures.ALL, row, column);
-                isLeft(due, left, left);
-            }
-        }
+        Cells.each((row, column) -> {
+            String left = Pictures.allBut(row, column);
+            isLeft(due, left, left);
+        });
     }
 
     private static void threeLines(Due due) {
@@ -89,13 +86,11 @@ public final class MendTest {
     }
 
     private static void threeByThreeButOne(Due due) {
-        for (int row = 0; row < Shelves.SIDE; row++) {
-            for (int column = 0; column < Shelves.SIDE; column++) {
-                if (Pictures.isLost(THREE_BY_THREE, row, column)) {
-                    isLeft(due, without(THREE_BY_THREE, row, column), Pictures.NONE);
-                }
+        Cells.each((row, column) -> {
+            if (Pictures.isLost(THREE_BY_THREE, row, column)) {
+                isLeft(due, without(THREE_BY_THREE, row, column), Pictures.NONE);
             }
-        }
+        });
     }
 
     private static void threeInEachLine(Due due) {
@@ -174,12 +169,10 @@ public final class MendTest {
     }
 
     private static void sameCells(Due due, String before, ProductShelf atOnce, ProductShelf byHand) {
-        for (int row = 0; row < Shelves.SIDE; row++) {
-            for (int column = 0; column < Shelves.SIDE; column++) {
-                String call = "lost" + Shelves.at(row, column) + " after mend() of " + before;
-                due.same(call, atOnce.lost(row, column), byHand.lost(row, column));
-            }
-        }
+        Cells.each((row, column) -> {
+            String call = "lost" + Shelves.at(row, column) + " after mend() of " + before;
+            due.same(call, atOnce.lost(row, column), byHand.lost(row, column));
+        });
     }
 
     private static void answersTheDifference(Due due) {

@@ -4,7 +4,8 @@ public final class NewObjectTest {
         Cases cases = new Cases();
         cases.of("Promise 1, A new object");
         cases.holds("\"All values are 0\", as read", NewObjectTest::eachIsReadAsZero);
-        cases.holds("\"All values are 0\", as the value before the first write", NewObjectTest::eachIsZeroBeforeTheFirstWrite);
+        cases.holds("\"All values are 0\", as the value before the first write",
+            NewObjectTest::eachIsZeroBeforeTheFirstWrite);
         cases.holds("\"All values are 0\", in sum", due -> due.same("total()", new ProductShelf().total(), 0));
         cases.holds("\"no cell is lost\", cell by cell", NewObjectTest::noneIsLost);
         cases.holds("\"no cell is lost\", in number", due -> due.same("losses()", new ProductShelf().losses(), 0));
@@ -14,28 +15,20 @@ public final class NewObjectTest {
     }
 
     private static void eachIsReadAsZero(Due due) {
-        for (int row = 0; row < Shelves.DATA_SIDE; row++) {
-            for (int column = 0; column < Shelves.DATA_SIDE; column++) {
-                due.same("read" + Shelves.at(row, column), new ProductShelf().read(row, column), 0);
-            }
-        }
+        Cells.eachData((row, column) ->
+            due.same("read" + Shelves.at(row, column), new ProductShelf().read(row, column), 0));
     }
 
     private static void eachIsZeroBeforeTheFirstWrite(Due due) {
-        for (int row = 0; row < Shelves.DATA_SIDE; row++) {
-            for (int column = 0; column < Shelves.DATA_SIDE; column++) {
-                due.same("write" + Shelves.at(row, column), new ProductShelf().write(row, column, 200), 0);
-            }
-        }
+        Cells.eachData((row, column) ->
+            due.same("write" + Shelves.at(row, column), new ProductShelf().write(row, column, 200), 0));
     }
 
     private static void noneIsLost(Due due) {
-        for (int row = 0; row < Shelves.SIDE; row++) {
-            for (int column = 0; column < Shelves.SIDE; column++) {
-                due.same("lost" + Shelves.at(row, column), new ProductShelf().lost(row, column), 0);
-                due.same("lose" + Shelves.at(row, column), new ProductShelf().lose(row, column), 1);
-            }
-        }
+        Cells.each((row, column) -> {
+            due.same("lost" + Shelves.at(row, column), new ProductShelf().lost(row, column), 0);
+            due.same("lose" + Shelves.at(row, column), new ProductShelf().lose(row, column), 1);
+        });
     }
 
     private static void nothingCanBeMended(Due due) {

@@ -31,6 +31,10 @@ final class Pictures {
         return where((r, c) -> r == row && c == column);
     }
 
+    static String allBut(int row, int column) {
+        return where((r, c) -> r != row || c != column);
+    }
+
     /** Rows become columns. */
     static String turned(String picture) {
         return where((row, column) -> isLost(picture, column, row));

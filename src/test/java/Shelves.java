@@ -29,21 +29,16 @@ final class Shelves {
     }
 
     static void fill(ProductShelf shelf) {
-        for (int row = 0; row < DATA_SIDE; row++) {
-            for (int column = 0; column < DATA_SIDE; column++) {
-                shelf.write(row, column, valueAt(row, column));
-            }
-        }
+        Cells.eachData((row, column) ->
+            shelf.write(row, column, valueAt(row, column)));
     }
 
     static void loseMarked(ProductShelf shelf, String picture) {
-        for (int row = 0; row < SIDE; row++) {
-            for (int column = 0; column < SIDE; column++) {
-                if (Pictures.isLost(picture, row, column)) {
-                    shelf.lose(row, column);
-                }
+        Cells.each((row, column) -> {
+            if (Pictures.isLost(picture, row, column)) {
+                shelf.lose(row, column);
             }
-        }
+        });
     }
 
     /** Checks every answer that looks without changing, on a shelf filled by filled(). */

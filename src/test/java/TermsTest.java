@@ -18,7 +18,8 @@ public final class TermsTest {
         cases.holds("\"each has a VALUE from 0 to 255\"", TermsTest::values);
         cases.holds("\"A cell is LOST or not\"", TermsTest::lostOrNot);
         cases.holds("\"A data cell keeps its value while it is lost\"", TermsTest::keepsItsValue);
-        cases.holds("\"keeps its value while it is lost\", whatever is written meanwhile", TermsTest::keepsItOverRefusedWrites);
+        cases.holds("\"keeps its value while it is lost\", whatever is written meanwhile",
+            TermsTest::keepsItOverRefusedWrites);
         cases.holds("\"but can't be read then\"", TermsTest::cantBeRead);
         cases.end();
     }
@@ -57,19 +58,17 @@ public final class TermsTest {
     }
 
     private static void lostOrNot(Due due) {
-        for (int row = 0; row < Shelves.SIDE; row++) {
-            for (int column = 0; column < Shelves.SIDE; column++) {
-                ProductShelf shelf = new ProductShelf();
-                String at = Shelves.at(row, column);
-                due.same("lost" + at + " at the start", shelf.lost(row, column), 0);
-                shelf.lose(row, column);
-                due.same("lost" + at + " after lose", shelf.lost(row, column), 1);
-                shelf.lose(row, column);
-                due.same("lost" + at + " after lose again", shelf.lost(row, column), 1);
-                shelf.mend();
-                due.same("lost" + at + " after mend", shelf.lost(row, column), 0);
-            }
-        }
+        Cells.each((row, column) -> {
+            ProductShelf shelf = new ProductShelf();
+            String at = Shelves.at(row, column);
+            due.same("lost" + at + " at the start", shelf.lost(row, column), 0);
+            shelf.lose(row, column);
+            due.same("lost" + at + " after lose", shelf.lost(row, column), 1);
+            shelf.lose(row, column);
+            due.same("lost" + at + " after lose again", shelf.lost(row, column), 1);
+            shelf.mend();
+            due.same("lost" + at + " after mend", shelf.lost(row, column), 0);
+        });
     }
 
     private static void keepsItsValue(Due due) {
@@ -80,14 +79,12 @@ public final class TermsTest {
         };
         for (Way lose : LOSING) {
             for (Way mend : mending) {
-                for (int row = 0; row < Shelves.DATA_SIDE; row++) {
-                    for (int column = 0; column < Shelves.DATA_SIDE; column++) {
-                        ProductShelf shelf = Shelves.filled();
-                        lose.on(shelf, row, column);
-                        mend.on(shelf, row, column);
-                        Shelves.looksLike(due, "lost and mended " + Shelves.at(row, column), shelf, Pictures.NONE);
-                    }
-                }
+                Cells.eachData((row, column) -> {
+                    ProductShelf shelf = Shelves.filled();
+                    lose.on(shelf, row, column);
+                    mend.on(shelf, row, column);
+                    Shelves.looksLike(due, "lost and mended " + Shelves.at(row, column), shelf, Pictures.NONE);
+                });
             }
         }
     }
@@ -130,13 +127,11 @@ public final class TermsTest {
 
     private static void cantBeRead(Due due) {
         for (Way lose : LOSING) {
-            for (int row = 0; row < Shelves.DATA_SIDE; row++) {
-                for (int column = 0; column < Shelves.DATA_SIDE; column++) {
-                    ProductShelf shelf = Shelves.filled();
-                    lose.on(shelf, row, column);
-                    due.same("read of the lost " + Shelves.at(row, column), shelf.read(row, column), -1);
-                }
-            }
+            Cells.eachData((row, column) -> {
+                ProductShelf shelf = Shelves.filled();
+                lose.on(shelf, row, column);
+                due.same("read of the lost " + Shelves.at(row, column), shelf.read(row, column), -1);
+            });
         }
     }
 }

@@ -29,15 +29,13 @@ public final class TotalTest {
     }
 
     private static void oneValue(Due due) {
-        for (int row = 0; row < Shelves.DATA_SIDE; row++) {
-            for (int column = 0; column < Shelves.DATA_SIDE; column++) {
-                ProductShelf shelf = new ProductShelf();
-                shelf.write(row, column, 200);
-                due.same("total() after write" + Shelves.at(row, column), shelf.total(), 200);
-                shelf.write(row, column, 1);
-                due.same("total() after a write over it", shelf.total(), 1);
-            }
-        }
+        Cells.eachData((row, column) -> {
+            ProductShelf shelf = new ProductShelf();
+            shelf.write(row, column, 200);
+            due.same("total() after write" + Shelves.at(row, column), shelf.total(), 200);
+            shelf.write(row, column, 1);
+            due.same("total() after a write over it", shelf.total(), 1);
+        });
     }
 
     private static void allDataLost(Due due) {
@@ -50,23 +48,18 @@ public final class TotalTest {
     }
 
     private static void oneLost(Due due) {
-        for (int row = 0; row < Shelves.DATA_SIDE; row++) {
-            for (int column = 0; column < Shelves.DATA_SIDE; column++) {
-                ProductShelf shelf = Shelves.filledWithLost(Pictures.cell(row, column));
-                int others = SUM_OF_FILLED - Shelves.valueAt(row, column);
-                due.same("total() without " + Shelves.at(row, column), shelf.total(), others);
-            }
-        }
+        Cells.eachData((row, column) -> {
+            ProductShelf shelf = Shelves.filledWithLost(Pictures.cell(row, column));
+            int others = SUM_OF_FILLED - Shelves.valueAt(row, column);
+            due.same("total() without " + Shelves.at(row, column), shelf.total(), others);
+        });
     }
 
     private static void oneLeft(Due due) {
-        for (int row = 0; row < Shelves.DATA_SIDE; row++) {
-            for (int column = 0; column < Shelves.DATA_SIDE; column++) {
-                String own = Pictures.cell(row, column);
-                ProductShelf shelf = Shelves.filledWithLost(Pictures.where((r, c) -> !Pictures.isLost(own, r, c)));
-                due.same("total() of " + Shelves.at(row, column), shelf.total(), Shelves.valueAt(row, column));
-            }
-        }
+        Cells.eachData((row, column) -> {
+            ProductShelf shelf = Shelves.filledWithLost(Pictures.allBut(row, column));
+            due.same("total() of " + Shelves.at(row, column), shelf.total(), Shelves.valueAt(row, column));
+        });
     }
 
     private static void mendedCounts(Due due) {

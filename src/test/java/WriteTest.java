@@ -1,7 +1,5 @@
 /** Promise 2. */
 public final class WriteTest {
-    private static final Refusals.CellCall WRITE = (shelf, row, column) -> shelf.write(row, column, 77);
-
     public static void main(String[] args) {
         Cases cases = new Cases();
         cases.of("Promise 2, write");
@@ -10,16 +8,8 @@ public final class WriteTest {
         cases.holds("\"value & 255\", too large and wrapped around", WriteTest::tooLarge);
         cases.holds("\"value & 255\", too small and wrapped around", WriteTest::tooSmall);
         cases.holds("\"Answers the value before\"", WriteTest::answersTheValueBefore);
-        cases.holds("\"-1, and changes nothing, if row\" is below 0",
-            due -> Refusals.ofRows(due, "write", Refusals.tooSmall(), WRITE));
-        cases.holds("\"-1, and changes nothing, if row\" is above 3",
-            due -> Refusals.ofRows(due, "write", Refusals.tooLarge(3), WRITE));
-        cases.holds("\"-1, and changes nothing, if .. column\" is below 0",
-            due -> Refusals.ofColumns(due, "write", Refusals.tooSmall(), WRITE));
-        cases.holds("\"-1, and changes nothing, if .. column\" is above 3",
-            due -> Refusals.ofColumns(due, "write", Refusals.tooLarge(3), WRITE));
-        cases.holds("\"-1, and changes nothing, if row or column\" are both wrong",
-            due -> Refusals.ofBoth(due, "write", 3, WRITE));
+        Refusals.ofCells(cases, "\"-1, and changes nothing, if row or column is not from 0 to 3\"", 3,
+            (shelf, row, column) -> shelf.write(row, column, 77));
         cases.holds("\"-1 .. if .. the cell is lost\"", WriteTest::lostCellIsRefused);
         cases.holds("\"changes nothing, if .. the cell is lost\"", WriteTest::lostCellIsNotChanged);
         cases.holds("\"the cell is lost\", not another one", WriteTest::otherLostCellsDoNotMatter);
@@ -27,15 +17,13 @@ public final class WriteTest {
     }
 
     private static void onlyThatCell(Due due) {
-        for (int row = 0; row < Shelves.DATA_SIDE; row++) {
-            for (int column = 0; column < Shelves.DATA_SIDE; column++) {
-                ProductShelf shelf = Shelves.filled();
-                shelf.write(row, column, 251);
-                due.same("read" + Shelves.at(row, column), shelf.read(row, column), 251);
-                shelf.write(row, column, Shelves.valueAt(row, column));
-                Shelves.looksLike(due, "after two writes" + Shelves.at(row, column), shelf, Pictures.NONE);
-            }
-        }
+        Cells.eachData((row, column) -> {
+            ProductShelf shelf = Shelves.filled();
+            shelf.write(row, column, 251);
+            due.same("read" + Shelves.at(row, column), shelf.read(row, column), 251);
+            shelf.write(row, column, Shelves.valueAt(row, column));
+            Shelves.looksLike(due, "after two writes" + Shelves.at(row, column), shelf, Pictures.NONE);
+        });
     }
 
     private static void inRange(Due due) {
@@ -80,53 +68,44 @@ public final class WriteTest {
     }
 
     private static void answersTheValueBefore(Due due) {
-        for (int row = 0; row < Shelves.DATA_SIDE; row++) {
-            for (int column = 0; column < Shelves.DATA_SIDE; column++) {
-                ProductShelf shelf = new ProductShelf();
-                String call = "write" + Shelves.at(row, column);
-                due.same(call + ", the first", shelf.write(row, column, 255), 0);
-                due.same(call + ", the second", shelf.write(row, column, 3), 255);
-                due.same(call + ", the same value", shelf.write(row, column, 3), 3);
-                due.same(call + ", 0", shelf.write(row, column, 0), 3);
-                due.same(call + ", after 0", shelf.write(row, column, 1), 0);
-            }
-        }
+        Cells.eachData((row, column) -> {
+            ProductShelf shelf = new ProductShelf();
+            String call = "write" + Shelves.at(row, column);
+            due.same(call + ", the first", shelf.write(row, column, 255), 0);
+            due.same(call + ", the second", shelf.write(row, column, 3), 255);
+            due.same(call + ", the same value", shelf.write(row, column, 3), 3);
+            due.same(call + ", 0", shelf.write(row, column, 0), 3);
+            due.same(call + ", after 0", shelf.write(row, column, 1), 0);
+        });
     }
 
     private static void lostCellIsRefused(Due due) {
-        for (int row = 0; row < Shelves.DATA_SIDE; row++) {
-            for (int column = 0; column < Shelves.DATA_SIDE; column++) {
-                ProductShelf shelf = Shelves.filledWithLost(Pictures.cell(row, column));
-                due.same("write to the lost " + Shelves.at(row, column), shelf.write(row, column, 77), -1);
-                shelf.mendRow(row);
-                int value = Shelves.valueAt(row, column);
-                due.same("write to the mended " + Shelves.at(row, column), shelf.write(row, column, 77), value);
-            }
-        }
+        Cells.eachData((row, column) -> {
+            ProductShelf shelf = Shelves.filledWithLost(Pictures.cell(row, column));
+            due.same("write to the lost " + Shelves.at(row, column), shelf.write(row, column, 77), -1);
+            shelf.mendRow(row);
+            int value = Shelves.valueAt(row, column);
+            due.same("write to the mended " + Shelves.at(row, column), shelf.write(row, column, 77), value);
+        });
     }
 
     private static void lostCellIsNotChanged(Due due) {
-        for (int row = 0; row < Shelves.DATA_SIDE; row++) {
-            for (int column = 0; column < Shelves.DATA_SIDE; column++) {
-                String picture = Pictures.cell(row, column);
-                ProductShelf shelf = Shelves.filledWithLost(picture);
-                shelf.write(row, column, 77);
-                Shelves.looksLike(due, "after a write to a lost cell", shelf, picture);
-                shelf.mendColumn(column);
-                Shelves.looksLike(due, "mended after a write to a lost cell", shelf, Pictures.NONE);
-            }
-        }
+        Cells.eachData((row, column) -> {
+            String picture = Pictures.cell(row, column);
+            ProductShelf shelf = Shelves.filledWithLost(picture);
+            shelf.write(row, column, 77);
+            Shelves.looksLike(due, "after a write to a lost cell", shelf, picture);
+            shelf.mendColumn(column);
+            Shelves.looksLike(due, "mended after a write to a lost cell", shelf, Pictures.NONE);
+        });
     }
 
     private static void otherLostCellsDoNotMatter(Due due) {
-        for (int row = 0; row < Shelves.DATA_SIDE; row++) {
-            for (int column = 0; column < Shelves.DATA_SIDE; column++) {
-                String own = Pictures.cell(row, column);
-                ProductShelf shelf = Shelves.filledWithLost(Pictures.where((r, c) -> !Pictures.isLost(own, r, c)));
-                int value = Shelves.valueAt(row, column);
-                due.same("write to the only cell that is left", shelf.write(row, column, 5), value);
-                due.same("read of the only cell that is left", shelf.read(row, column), 5);
-            }
-        }
+        Cells.eachData((row, column) -> {
+            ProductShelf shelf = Shelves.filledWithLost(Pictures.allBut(row, column));
+            int value = Shelves.valueAt(row, column);
+            due.same("write to the only cell that is left", shelf.write(row, column, 5), value);
+            due.same("read of the only cell that is left", shelf.read(row, column), 5);
+        });
     }
 }
