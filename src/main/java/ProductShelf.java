@@ -162,6 +162,8 @@ public final class ProductShelf {
         if (lostBefore > MOST_MENDED_AT_ONCE) {
             return 0;
         }
+        // A line with none lost can't be mended either: clearing it changes
+        // nothing, and its count is the 0 that is due.
         markLine(first, step, false);
         return lostBefore;
     }

@@ -1,11 +1,11 @@
-import java.lang.reflect.Constructor;
-import java.lang.reflect.Executable;
-import java.lang.reflect.Field;
+import java.lang.reflect.Member;
 import java.lang.reflect.Method;
 import java.lang.reflect.Modifier;
 import java.util.Arrays;
 import java.util.Set;
 import java.util.TreeSet;
+import java.util.stream.Collectors;
+import java.util.stream.Stream;
 
 /** The document's public face, all of it and nothing beside it. */
 public final class FaceTest {
@@ -24,45 +24,43 @@ public final class FaceTest {
         "public int ProductShelf.total()");
 
     public static void main(String[] args) {
+        Set<String> seen = seenFromOutside(ProductShelf.class);
         Cases cases = new Cases();
         cases.of("The public face");
-        cases.holds("all of it and nothing beside it", FaceTest::face);
+        cases.holds("\"public final class ProductShelf\"", due -> due.same("modifiers",
+            ProductShelf.class.getModifiers(), Modifier.PUBLIC | Modifier.FINAL));
+        cases.holds("the constructor and the eleven methods", due -> noneLeft(due, "missing", FACE, seen));
+        cases.holds("no other member that can be seen from outside", due -> noneLeft(due, "beside", seen, FACE));
+        cases.of("LANGUAGE.md, rule 1");
+        cases.holds("\"No private method bears the name of a public one\"", FaceTest::names);
         cases.end();
     }
 
-    private static void face(Due due) {
-        Class<?> shelf = ProductShelf.class;
-        due.same("public final class", shelf.getModifiers(), Modifier.PUBLIC | Modifier.FINAL);
-        due.same("nested classes", shelf.getDeclaredClasses().length, 0);
+    private static void noneLeft(Due due, String what, Set<String> all, Set<String> without) {
+        Set<String> left = new TreeSet<>(all);
+        left.removeAll(without);
+        due.same(what + ": " + left, left.size(), 0);
+    }
 
-        Set<String> missing = new TreeSet<>(FACE);
-        Set<String> beside = new TreeSet<>();
-        for (Constructor<?> constructor : shelf.getDeclaredConstructors()) {
-            sort(constructor, missing, beside);
-        }
-        for (Method method : shelf.getDeclaredMethods()) {
-            sort(method, missing, beside);
-        }
-        for (Field field : shelf.getDeclaredFields()) {
-            if (!Modifier.isPrivate(field.getModifiers())) {
-                beside.add(field.toString());
+    private static void names(Due due) {
+        Set<String> names = new TreeSet<>();
+        for (Method method : ProductShelf.class.getDeclaredMethods()) {
+            if (!Modifier.isPrivate(method.getModifiers())) {
+                names.add(method.getName());
             }
         }
-        due.same("missing of the face: " + missing, missing.size(), 0);
-        due.same("beside the face: " + beside, beside.size(), 0);
-        due.same("private methods with a public name", namesUsedTwice(shelf), 0);
-    }
-
-    private static void sort(Executable member, Set<String> missing, Set<String> beside) {
-        boolean due = missing.remove(member.toString());
-        if (!due && !Modifier.isPrivate(member.getModifiers())) {
-            beside.add(member.toString());
+        for (Method method : ProductShelf.class.getDeclaredMethods()) {
+            boolean shared = Modifier.isPrivate(method.getModifiers()) && names.contains(method.getName());
+            due.same("a public one's name for " + method, shared ? 1 : 0, 0);
         }
     }
 
-    private static int namesUsedTwice(Class<?> shelf) {
-        Method[] methods = shelf.getDeclaredMethods();
-        long names = Arrays.stream(methods).map(Method::getName).distinct().count();
-        return methods.length - (int) names;
+    private static Set<String> seenFromOutside(Class<?> shelf) {
+        return Stream.<Member[]>of(
+                shelf.getDeclaredConstructors(), shelf.getDeclaredMethods(), shelf.getDeclaredFields())
+            .flatMap(Arrays::stream)
+            .filter(member -> !Modifier.isPrivate(member.getModifiers()))
+            .map(Member::toString)
+            .collect(Collectors.toSet());
     }
 }
