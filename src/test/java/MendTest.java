@@ -1,8 +1,21 @@
+import java.util.ArrayList;
+import java.util.List;
 import java.util.Random;
 
 /** Promise 9. */
 public final class MendTest {
     private static final String THREE_BY_THREE = ".#.#.# ...... .#.#.# ...... ...... .#.#.#";
+
+    /** Found by search: no picture is known that takes longer. */
+    private static final String[] LONGEST = {
+        // Seven rounds of row 0, column 0, row 1, column 1 and so on.
+        "#.##.# ###..# ##...# .####. ...### ....#.",
+        // Four rounds of all rows and then all columns.
+        "#.#.## ..#.## ##...# #.#... .###.. #####.",
+        // Eleven lines, if always the first one that can be mended is.
+        "#.##.. .#.##. .##.## .##... #####. #.#..#",
+    };
+    private static final int ORDERS = 720;
 
     public static void main(String[] args) {
         Cases cases = new Cases();
@@ -20,6 +33,8 @@ public final class MendTest {
         cases.holds("\"Mends rows and columns\", neither of them alone", MendTest::neitherAlone);
         cases.holds("\"until no row and no column can be mended any more\", one line opening the next",
             MendTest::oneAfterAnother);
+        cases.holds("\"until no row and no column can be mended any more\", the longest ways known",
+            MendTest::longestWays);
         cases.holds("\"until no row and no column can be mended any more\", a part staying lost", MendTest::onlyAPart);
         cases.holds("\"until no row and no column can be mended any more\", so none is mended after it",
             MendTest::noneIsMendedAfter);
@@ -119,6 +134,31 @@ public final class MendTest {
             isLeft(due, kind.picture("#.##.# .#..#. .###.. #..### ###..# .#..##"), Pictures.NONE);
             isLeft(due, kind.picture("..##.# .###.# ..#.#. #..##. ###..# ##.##."), Pictures.NONE);
         }
+    }
+
+    /** With the lines in every order, so that no order in which a program goes over them is spared. */
+    private static void longestWays(Due due) {
+        for (String longest : LONGEST) {
+            for (int number = 0; number < ORDERS; number++) {
+                int[] order = order(number);
+                String picture = Pictures.where((row, column) ->
+                    Pictures.isLost(longest, order[row], order[column]));
+                isLeft(due, picture, Pictures.NONE);
+                isLeft(due, Pictures.turned(picture), Pictures.NONE);
+            }
+        }
+    }
+
+    /** The numbers from 0 to 719 give each order of the six lines once; 0 leaves them as they are. */
+    private static int[] order(int number) {
+        List<Integer> left = new ArrayList<>(List.of(0, 1, 2, 3, 4, 5));
+        int[] order = new int[Shelves.SIDE];
+        int rest = number;
+        for (int line = 0; line < Shelves.SIDE; line++) {
+            order[line] = left.remove(rest % left.size());
+            rest /= left.size() + 1;
+        }
+        return order;
     }
 
     private static void onlyAPart(Due due) {
